@@ -246,30 +246,35 @@ public final class LinearTruths {
             }
         }
 
-        /** Adds a row whose numbers are 0; false if there is no room for it. */
-        boolean add(int kind) {
-            if (!makeRoom(rows + 1)) {
+        /** Makes room for more rows; false if that would be too many. */
+        boolean reserve(int more) {
+            int wanted = rows + more;
+            if (wanted > ROWS_MOST) {
                 return false;
             }
-            int start = rows * WIDTH;
-            Arrays.fill(cells, start, start + WIDTH, 0);
-            cells[start] = kind;
-            rows++;
+            if (wanted * WIDTH > cells.length) {
+                cells = Arrays.copyOf(cells, Math.min(2 * wanted, ROWS_MOST) * WIDTH);
+            }
             return true;
         }
 
-        /** Adds rows of another tree; false if there is no room for them. */
-        boolean append(Tree other, int first, int end) {
-            if (first < 0 || first > end || end > other.rows) {
-                return false;
+        /** Adds a row whose numbers are 0. */
+        void add(int kind) {
+            int start = rows * WIDTH;
+            if (start + WIDTH <= cells.length) {
+                Arrays.fill(cells, start, start + WIDTH, 0);
+                cells[start] = kind;
+                rows++;
             }
+        }
+
+        /** Adds rows of another tree. */
+        void append(Tree other, int first, int end) {
             int more = end - first;
-            if (!makeRoom(rows + more)) {
-                return false;
+            if (first >= 0 && more >= 0 && end <= other.rows && (rows + more) * WIDTH <= cells.length) {
+                System.arraycopy(other.cells, first * WIDTH, cells, rows * WIDTH, more * WIDTH);
+                rows += more;
             }
-            System.arraycopy(other.cells, first * WIDTH, cells, rows * WIDTH, more * WIDTH);
-            rows += more;
-            return true;
         }
 
         void become(Tree other, int first, int end) {
@@ -347,16 +352,6 @@ public final class LinearTruths {
                 }
             }
         }
-
-        private boolean makeRoom(int wanted) {
-            if (wanted > ROWS_MOST) {
-                return false;
-            }
-            if (wanted * WIDTH > cells.length) {
-                cells = Arrays.copyOf(cells, Math.min(2 * wanted, ROWS_MOST) * WIDTH);
-            }
-            return true;
-        }
     }
 
     /** A sum that becomes an ATOM, or T or F. */
@@ -407,8 +402,11 @@ public final class LinearTruths {
 
         /** The kind of what the sum and a relation are, its numbers brought into an ATOM's form; or GREAT. */
         int settle(int relation) {
-            int bits = bits();
-            if (bits == 0) {
+            int first = 0;
+            while (first < VARIABLES && numbers[first] == 0) {
+                first++;
+            }
+            if (first == VARIABLES) {
                 return isTrue(relation, numbers[VARIABLES]) ? T : F;
             }
             long divisor = commonDivisor();
@@ -422,7 +420,6 @@ public final class LinearTruths {
                     return GREAT;
                 }
             }
-            int first = Math.min(Integer.numberOfTrailingZeros(bits), VARIABLES);
             if ((relation == EQ || relation == NE) && numbers[first] < 0) {
                 turn();
             }
@@ -445,14 +442,16 @@ public final class LinearTruths {
 
     /** Formulas one behind the other in one tree; the last two are joined, the last one is bound. */
     private static final class Bench {
-        /** A formula has fewer parts than rows, and a TEST POINT makes two more. */
+        /**
+         * Far above need: what is read with quantifiers has some 80 parts at most, and a TEST POINT
+         * adds those of what it is put in, some 200.
+         */
         private static final int PARTS_MOST = NODES_MOST + 2;
 
         private final Tree tree;
         private final int[] starts = new int[PARTS_MOST];
         private final int[] looses = new int[PARTS_MOST];
         private int parts;
-        private boolean full;
 
         Bench(int capacity) {
             tree = new Tree(capacity);
@@ -461,13 +460,11 @@ public final class LinearTruths {
         void begin() {
             tree.cut(0);
             parts = 0;
-            full = false;
         }
 
         void push(int kind) {
-            if (open(0) && !tree.add(kind)) {
-                full = true;
-            }
+            open(0);
+            tree.add(kind);
         }
 
         void pushRow(Tree from, int row) {
@@ -477,25 +474,18 @@ public final class LinearTruths {
                     bits |= 1 << variable;
                 }
             }
-            if (open(bits) && !tree.append(from, row, row + 1)) {
-                full = true;
-            }
+            open(bits);
+            tree.append(from, row, row + 1);
         }
 
-        /** Pushes what a sum has settled to be; false if that is GREAT. */
-        boolean pushSum(Sum sum, int relation) {
-            int kind = sum.settle(relation);
-            if (kind == GREAT) {
-                return false;
+        /** Pushes what a sum has settled to be: T, F or an ATOM. */
+        void pushSettled(Sum sum, int kind) {
+            boolean isAtom = kind >= EQ;
+            open(isAtom ? sum.bits() : 0);
+            tree.add(kind);
+            for (int place = 0; isAtom && place < PLACES; place++) {
+                tree.setNumber(tree.rows - 1, place, (int) sum.numbers[place]);
             }
-            push(kind);
-            if (kind != T && kind != F && parts > 0 && !full) {
-                looses[parts - 1] = sum.bits();
-                for (int place = 0; place < PLACES; place++) {
-                    tree.setNumber(tree.rows - 1, place, (int) sum.numbers[place]);
-                }
-            }
-            return true;
         }
 
         /** The SIMPLE AND or OR of the last two. */
@@ -517,7 +507,7 @@ public final class LinearTruths {
                 looses[parts - 1] = looses[parts];
             } else {
                 looses[parts - 1] |= looses[parts];
-                full |= !tree.add(kind);
+                tree.add(kind);
             }
         }
 
@@ -526,10 +516,7 @@ public final class LinearTruths {
             if (parts < 1 || (looses[parts - 1] >> variable & 1) == 0) {
                 return;
             }
-            if (!tree.add(kind)) {
-                full = true;
-                return;
-            }
+            tree.add(kind);
             tree.setNumber(tree.rows - 1, 0, variable);
             looses[parts - 1] &= ~(1 << variable);
         }
@@ -566,15 +553,12 @@ public final class LinearTruths {
             return parts > 0 ? tree.rows - starts[parts - 1] : 0;
         }
 
-        private boolean open(int bits) {
-            if (parts >= PARTS_MOST) {
-                full = true;
-                return false;
+        private void open(int bits) {
+            if (parts < PARTS_MOST) {
+                starts[parts] = tree.rows;
+                looses[parts] = bits;
+                parts++;
             }
-            starts[parts] = tree.rows;
-            looses[parts] = bits;
-            parts++;
-            return true;
         }
     }
 
@@ -723,7 +707,7 @@ public final class LinearTruths {
                 return at;
             }
             carryOut(BY_ARROW);
-            return great || bench.full ? GREAT : NONE;
+            return great ? GREAT : NONE;
         }
 
         private void await(int what) {
@@ -806,10 +790,9 @@ public final class LinearTruths {
 
         /** GREAT is told only of a TEXT without a FAULT, so that reading goes on with something else. */
         private void pushAtom(int relation) {
-            if (!bench.pushSum(sum, relation)) {
-                great = true;
-                bench.push(T);
-            }
+            int kind = sum.settle(relation);
+            great |= kind == GREAT;
+            bench.pushSettled(sum, kind == GREAT ? T : kind);
         }
 
         /** A side of a relation, the right one with the sign -1. */
@@ -935,6 +918,9 @@ public final class LinearTruths {
             takenOut = 0;
             for (int row = 0; row < from.rows; row++) {
                 int kind = from.kind(row);
+                if (!bench.tree.reserve(1)) {
+                    return false;
+                }
                 if (kind < AND) {
                     bench.pushRow(from, row);
                 } else if (kind < EX) {
@@ -942,7 +928,7 @@ public final class LinearTruths {
                 } else if (!takeOut(kind, from.number(row, 0))) {
                     return false;
                 }
-                if (bench.full || bench.lastNodes() > NODES_MOST) {
+                if (bench.lastNodes() > NODES_MOST) {
                     return false;
                 }
             }
@@ -969,7 +955,7 @@ public final class LinearTruths {
                     return false;
                 }
             }
-            return !bench.full;
+            return true;
         }
 
         /** Marks the rows that stand inside of an E or A of a VARIABLE. */
@@ -998,13 +984,13 @@ public final class LinearTruths {
             collectPoints(variable);
             for (int point = INFINITY; point < points; point++) {
                 pointsPut++;
-                if (!putIn(variable, point)) {
+                if (!bench.tree.reserve(body.rows + 1) || !putIn(variable, point)) {
                     return false;
                 }
                 if (point != INFINITY) {
                     bench.join(OR);
                 }
-                if (bench.full || bench.lastNodes() > NODES_MOST) {
+                if (bench.lastNodes() > NODES_MOST) {
                     return false;
                 }
                 if (bench.lastKind() == T) {
@@ -1099,7 +1085,12 @@ public final class LinearTruths {
                 long own = place == variable ? 0 : from.number(row, place);
                 sum.add(place, own * below + factor * rowsOfPoints[start + 1 + place]);
             }
-            return bench.pushSum(sum, relation);
+            int kind = sum.settle(relation);
+            if (kind == GREAT) {
+                return false;
+            }
+            bench.pushSettled(sum, kind);
+            return true;
         }
     }
 
