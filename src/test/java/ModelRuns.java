@@ -4,6 +4,7 @@ import java.util.LinkedHashSet;
 import java.util.List;
 import java.util.Random;
 import java.util.Set;
+import java.util.function.Supplier;
 
 /**
  * Random runs of calls, each answer held against a model that follows the document in its plainest
@@ -12,6 +13,7 @@ import java.util.Set;
  */
 public final class ModelRuns {
     private static final int RUNS = 4000;
+    private static final int MIXED_RUNS = 600;
     private static int wrong = 0;
     private static int greatReads = 0, greatFrees = 0, greatDecides = 0, longWrites = 0, faults = 0;
 
@@ -701,9 +703,93 @@ public final class ModelRuns {
         }
     }
 
+    /** The answer, or -9 for an exception. */
+    private static long answer(Supplier<Number> call) {
+        try {
+            return call.get().longValue();
+        } catch (IllegalArgumentException | IllegalStateException | UnsupportedOperationException e) {
+            return -9;
+        }
+    }
+
+    private static void newText(LinearTruths x, Model m, Texts texts, Random random) {
+        due("clear()", x.clear(), m.text.length());
+        m.text = "";
+        String text = texts.one();
+        if (random.nextInt(6) == 0) text = spoilt(text, random);
+        type(x, m, text.length() > 240 ? text.substring(0, 240) : text);
+    }
+
+    private static void typeSome(LinearTruths x, Model m, Random random) {
+        String tail = random.nextBoolean() ? "&a<b|T  " : "->Eb.b<a";
+        long bytes = 0;
+        for (int k = 7; k >= 0; k--) bytes = bytes << 8 | tail.charAt(k);
+        long all = bytes;
+        int n = random.nextInt(11) - 1;
+        boolean refused = n < 0 || n > 8 || m.text.length() + n > 240;
+        if (!refused) m.text += tail.substring(0, n);
+        due("type '" + tail + "' " + n, answer(() -> x.type(all, n)), refused ? -9 : m.text.length());
+    }
+
+    private static void giveValue(LinearTruths x, Model m, Random random) {
+        int v = random.nextInt(10) - 1, above = random.nextInt(203) - 101, below = random.nextInt(11);
+        boolean refused = v < 0 || v > 7 || above < -99 || above > 99 || below < 1 || below > 9;
+        if (!refused) {
+            m.above[v] = above;
+            m.below[v] = below;
+        }
+        due("value " + v + " " + above + "/" + below, answer(() -> {
+            x.value(v, above, below);
+            return 0;
+        }), refused ? -9 : 0);
+    }
+
+    private static int told(Model m, int what) {
+        int[] answers = {nodes(m.formula), count(m.formula, "=!<L"), count(m.formula, "EA"), deep(m.formula), m.put, m.taken};
+        return what < 0 || what > 5 ? -9 : answers[what];
+    }
+
+    private static void anyCall(LinearTruths x, Model m, Random random) {
+        int what = random.nextInt(8) - 1;
+        int place = random.nextInt(4) == 0 ? 11_980 + random.nextInt(30) : random.nextInt(m.out.length() + 20) - 10;
+        switch (random.nextInt(13)) {
+            case 0 -> typeSome(x, m, random);
+            case 1, 2 -> due("read()", x.read(), m.read());
+            case 3 -> due("free()", x.free(), freeBits(m.formula));
+            case 4 -> due("frees()", x.frees(), m.frees());
+            case 5 -> giveValue(x, m, random);
+            case 6 -> due("holds()", holds(x), m.holds());
+            case 7 -> due("decide()", x.decide(), m.decide());
+            case 8 -> {
+                m.formula = not(m.formula);
+                due("not()", x.not(), nodes(m.formula));
+            }
+            case 9 -> due("told(" + what + ")", answer(() -> x.told(what)), told(m, what));
+            case 10 -> due("write()", x.write(), m.write());
+            case 11 -> due("out(" + place + ")", x.out(place), m.out(place));
+            default -> due("pass()", x.pass(), m.pass());
+        }
+    }
+
+    /** 512 calls in any order, refused ones among them: what one leaves another one finds. */
+    private static void mixed(long seed) {
+        Random random = new Random(seed);
+        Texts texts = new Texts(random);
+        LinearTruths x = new LinearTruths();
+        Model m = new Model();
+        TRAIL.clear();
+        TRAIL.add("mixed seed " + seed);
+        while (TRAIL.size() <= 480) {
+            if (random.nextInt(12) == 0) newText(x, m, texts, random);
+            anyCall(x, m, random);
+        }
+        while (TRAIL.size() <= 512) anyCall(x, m, random);
+    }
+
     public static void main(String[] args) {
         for (int seed = 1; seed <= RUNS; seed++) run(seed);
-        System.out.println("model runs: " + RUNS + "; faults " + faults + ", GREAT of read " + greatReads + ", of frees "
+        for (int seed = 1; seed <= MIXED_RUNS; seed++) mixed(seed);
+        System.out.println("model runs: " + RUNS + " and " + MIXED_RUNS + " mixed ones; faults " + faults + ", GREAT of read " + greatReads + ", of frees "
                 + greatFrees + ", of decide " + greatDecides + ", writings over 12,000 bytes " + longWrites);
         if (wrong > 0) System.exit(1);
     }

@@ -5,85 +5,9 @@ import java.lang.reflect.Modifier;
 import java.util.Arrays;
 import java.util.Set;
 import java.util.TreeSet;
-import java.util.function.Supplier;
 
 /** Each promise of the document by its own examples: ordinary inputs, edges, wrong inputs. */
-public final class PromiseTests {
-    private static int wrong = 0;
-    private static int checks = 0;
-
-    private static void due(String what, Object got, Object want) {
-        checks++;
-        if (!got.equals(want)) {
-            wrong++;
-            System.out.println(what + ": answered " + got + ", due is " + want);
-        }
-    }
-
-    /** The answer, or the name of the exception. */
-    private static String answer(Supplier<Object> call) {
-        try {
-            return String.valueOf(call.get());
-        } catch (RuntimeException e) {
-            return e.getClass().getSimpleName();
-        }
-    }
-
-    private static String type(LinearTruths x, long bytes, int n) {
-        return answer(() -> x.type(bytes, n));
-    }
-
-    private static String value(LinearTruths x, int variable, int above, int below) {
-        return answer(() -> {
-            x.value(variable, above, below);
-            return "void";
-        });
-    }
-
-    private static String holds(LinearTruths x) {
-        return answer(x::holds);
-    }
-
-    private static void text(LinearTruths x, String text) {
-        x.clear();
-        for (int i = 0; i < text.length(); i++) x.type(text.charAt(i), 1);
-    }
-
-    private static LinearTruths of(String text) {
-        LinearTruths x = new LinearTruths();
-        text(x, text);
-        due("read() of " + text, x.read(), -1);
-        return x;
-    }
-
-    private static String written(LinearTruths x) {
-        int length = x.write();
-        StringBuilder s = new StringBuilder();
-        for (int i = 0; i < Math.min(length, 12000); i++) s.append((char) (x.out(i) & 255));
-        return s.toString();
-    }
-
-    private static void reads(String text, String formula) {
-        due(text + " read and written", written(of(text)), formula);
-    }
-
-    private static void faulty(String text, int place) {
-        LinearTruths x = of("b<7");
-        text(x, text);
-        due("read() of " + text, x.read(), place);
-        due("the formula behind it", written(x), "b-7<0");
-        due("the TEXT behind it", x.clear(), text.length());
-    }
-
-    private static void freed(String text, String formula, int points, int variables) {
-        LinearTruths x = of(text);
-        int nodes = x.frees();
-        due(text + " freed", written(x), formula);
-        due(text + ": frees() and told(0)", nodes, x.told(0));
-        due(text + ": told(4)", x.told(4), points);
-        due(text + ": told(5)", x.told(5), variables);
-    }
-
+public final class PromiseTests extends Check {
     private static void face() {
         Set<String> names = new TreeSet<>();
         for (Method m : LinearTruths.class.getDeclaredMethods()) {
@@ -211,54 +135,54 @@ public final class PromiseTests {
     }
 
     private static void faults() {
-        faulty("", 0);
-        faulty("   ", 3);
-        faulty("i<0", 0);
-        faulty("Ei.T", 1);
-        faulty("Ea", 2);
-        faulty("Ea T", 3);
-        faulty("a", 1);
-        faulty("a<", 2);
-        faulty("a! =0", 2);
-        faulty("a< =0", 3);
-        faulty("a<b<c", 3);
-        faulty("a->b<c", 2);
-        faulty("T-", 2);
-        faulty("T- >T", 2);
-        faulty("a<b- >c", 5);
-        faulty("T&", 2);
-        faulty("T|&T", 2);
-        faulty("(T", 2);
-        faulty("T)", 1);
-        faulty("()", 1);
-        faulty("12345<a", 4);
-        faulty("1 /2<a", 2);
-        faulty("1/ 2<a", 2);
-        faulty("1/0<a", 2);
-        faulty("1/13<a", 3);
-        faulty("1/20<a", 3);
-        faulty("1/<a", 2);
-        faulty("1 2<a", 2);
-        faulty("a2<0", 1);
-        faulty("a++b<0", 2);
-        faulty("--a<0", 1);
-        faulty("t", 0);
-        faulty("!".repeat(21) + "T", 20);
-        faulty("!(!(!(!(!(!(!(!(!(!(Ea.T", 20);
-        faulty("(".repeat(20) + "T&!T", 22);
-        faulty("\u00e1<0", 0);
-        faulty("T\u0000", 1);
-        faulty("T\t", 1);
+        refused("", 0);
+        refused("   ", 3);
+        refused("i<0", 0);
+        refused("Ei.T", 1);
+        refused("Ea", 2);
+        refused("Ea T", 3);
+        refused("a", 1);
+        refused("a<", 2);
+        refused("a! =0", 2);
+        refused("a< =0", 3);
+        refused("a<b<c", 3);
+        refused("a->b<c", 2);
+        refused("T-", 2);
+        refused("T- >T", 2);
+        refused("a<b- >c", 5);
+        refused("T&", 2);
+        refused("T|&T", 2);
+        refused("(T", 2);
+        refused("T)", 1);
+        refused("()", 1);
+        refused("12345<a", 4);
+        refused("1 /2<a", 2);
+        refused("1/ 2<a", 2);
+        refused("1/0<a", 2);
+        refused("1/13<a", 3);
+        refused("1/20<a", 3);
+        refused("1/<a", 2);
+        refused("1 2<a", 2);
+        refused("a2<0", 1);
+        refused("a++b<0", 2);
+        refused("--a<0", 1);
+        refused("t", 0);
+        refused("!".repeat(21) + "T", 20);
+        refused("!(!(!(!(!(!(!(!(!(!(Ea.T", 20);
+        refused("(".repeat(20) + "T&!T", 22);
+        refused("\u00e1<0", 0);
+        refused("T\u0000", 1);
+        refused("T\t", 1);
     }
 
     private static void greatReads() {
         String full = "9999a+9999a+9999a+6076a+4/7a+5/9a+10/11a+1/8b+1/5c";
         reads(full + "<0", "1000000000a+3465b+5544c<0");
         reads("0<" + full, "-1000000000a-3465b-5544c<0");
-        faulty(full + "+1/8a<0", -2);
-        faulty("0<=" + full + "+1/8a", -2);
-        faulty("F&" + full + "+1/8a<0", -2);
-        faulty(full + "+1/8a<0&", full.length() + 8);
+        refused(full + "+1/8a<0", -2);
+        refused("0<=" + full + "+1/8a", -2);
+        refused("F&" + full + "+1/8a<0", -2);
+        refused(full + "+1/8a<0&", full.length() + 8);
         reads("9999+9999+9999+9999+9999+1/7+1/8+1/9+1/10+1/11<0", "F");
         reads("9999a+9999a+9999a+9999a+9999a<9999", "5a-1<0");
     }
@@ -520,12 +444,6 @@ public final class PromiseTests {
         due("a short one behind a long one", y.out(0) + " " + y.out(1) + " " + y.pass(), "84 0 1");
     }
 
-    private static long bytes(String eight) {
-        long all = 0;
-        for (int k = 7; k >= 0; k--) all = all << 8 | eight.charAt(k);
-        return all;
-    }
-
     public static void main(String[] args) {
         face();
         newObject();
@@ -538,7 +456,6 @@ public final class PromiseTests {
         negating();
         telling();
         writing();
-        System.out.println("promises: " + checks + " checks, " + wrong + " wrong");
-        if (wrong > 0) System.exit(1);
+        end("promises");
     }
 }
