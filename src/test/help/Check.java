@@ -124,6 +124,14 @@ abstract class Check {
         due(text + " freed", written(x), formula);
         due(text + ": frees() and told(0)", nodes, x.told(0));
         due(text + ": told(4), told(5)", effort(x), points + " " + variables);
+        due(text + ": free() behind frees()", x.free(), letters(formula));
+    }
+
+    /** Bits of the VARIABLES in a formula without E and A. */
+    private static int letters(String formula) {
+        int bits = 0;
+        for (char v = 'a'; v <= 'h'; v++) bits |= formula.indexOf(v) < 0 ? 0 : 1 << v - 'a';
+        return bits;
     }
 
     /** A whole number of a VARIABLE, or of nothing, as a sum of NUMBERS without a stroke. */
