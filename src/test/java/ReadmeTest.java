@@ -24,7 +24,7 @@ public final class ReadmeTest extends Check {
         for (char letter : text.toCharArray()) typed = truths.type(letter, 1);
         due("example: type", toldBehind("truths.type(letter, 1);"), "1, 2, .. " + typed);
         due("example: read", toldBehind("int fault = truths.read();"), truths.read());
-        due("example: free", toldBehind("int kinds = truths.free();"), truths.free());
+        due("example: free", toldBehind("int bits = truths.free();"), truths.free());
         due("example: decide", toldBehind("int before = truths.decide();"), truths.decide());
         due("example: frees", toldBehind("int nodes = truths.frees();"), truths.frees());
         due("example: what is freed", written(truths), "b-c<0");
